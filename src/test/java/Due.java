@@ -24,9 +24,13 @@ final class Due {
         is(call, got ? 1 : 0, 0);
     }
 
+    boolean hasWrong() {
+        return wrong != 0;
+    }
+
     void end() {
         System.out.println(test + ": " + checked + " answers, " + wrong + " not as due");
-        if (wrong != 0) {
+        if (hasWrong()) {
             System.exit(1);
         }
     }

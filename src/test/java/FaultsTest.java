@@ -63,6 +63,8 @@ public final class FaultsTest {
         due.is("16: value(0)", x.value(0), GREATEST);
         due.is("10: access(0, 0, false, 0)", x.access(0, 0, false, 0), 0);
         due.is("16: value(0)", x.value(0), 0);
+        due.is("10: access(0, 0, true, 6)", x.access(0, 0, true, 6), 0);
+        due.is("21: word(0)", x.word(0), 6);
         due.is("21: word(-1)", x.word(-1), 0);
         due.is("21: word(16)", x.word(16), 0);
         due.is("21: word(LEAST)", x.word(LEAST), 0);
@@ -158,12 +160,7 @@ public final class FaultsTest {
     private static void faultKeepsTheOffer() {
         PagerKernel x = pagerAndThread();
         x.spawn(2, -1);
-        x.receive(1, 0, -1);
-        x.window(1, 2);
-        x.receive(0, -1, 0);
         x.window(0, 15);
-        x.offer(0, 2, 2, false);
-        x.send(0, 1, 0);
         x.window(1, 2);
         x.receive(1, 0, -1);
         x.offer(0, 2, 2, false);

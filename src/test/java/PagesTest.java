@@ -5,6 +5,7 @@ public final class PagesTest {
     private static final int GREATEST = Integer.MAX_VALUE;
 
     public static void main(String[] args) {
+        noOfferAndNoWindowAtFirst();
         offerRefuses();
         windowRefuses();
         offerIsGoneAfterTheMessage();
@@ -24,6 +25,7 @@ public final class PagesTest {
         unmapRemoves();
         unmapLowers();
         unmapAfterGrant();
+        firstPageOfTheFirstSpaceAsADescendant();
         unmapRefuses();
         askingOfNoPage();
         due.end();
@@ -49,6 +51,21 @@ public final class PagesTest {
     private static void isMapped(PagerKernel x, int space, int p, int mapping, int heirs) {
         due.is("18: mapping(" + space + ", " + p + ")", x.mapping(space, p), mapping);
         due.is("19: heirs(" + space + ", " + p + ")", x.heirs(space, p), heirs);
+    }
+
+    private static void noOfferAndNoWindowAtFirst() {
+        PagerKernel x = spaces();
+        x.spawn(0, -1);
+        for (int s = 0; s <= 6; s += 6) {
+            x.window(1, 0);
+            x.receive(1, s, -1);
+            x.send(s, 1, 0);
+            isMapped(x, 1, 0, -1, -1);
+        }
+        x.receive(6, 0, -1);
+        x.offer(0, 5, 2, false);
+        x.send(0, 6, 0);
+        isMapped(x, 0, 5, 52, 0);
     }
 
     private static void offerRefuses() {
@@ -388,6 +405,20 @@ public final class PagesTest {
         due.is("11: unmap(0, 3, 1, false)", x.unmap(0, 3, 1, false), 1);
         isMapped(x, 2, 3, -1, -1);
         isMapped(x, 1, 3, 1042, 0);
+    }
+
+    private static void firstPageOfTheFirstSpaceAsADescendant() {
+        PagerKernel x = spaces();
+        hand(x, 0, 3, 1, 3, 2, false);
+        hand(x, 1, 3, 0, 0, 2, false);
+        hand(x, 0, 0, 4, 4, 2, false);
+        isMapped(x, 0, 0, 2032, 1);
+        isMapped(x, 0, 3, 32, 3);
+        hand(x, 1, 3, 2, 2, 2, true);
+        isMapped(x, 2, 2, 1032, 2);
+        due.is("11: unmap(2, 2, 1, false)", x.unmap(2, 2, 1, false), 2);
+        isMapped(x, 0, 0, -1, -1);
+        isMapped(x, 4, 4, -1, -1);
     }
 
     private static void unmapRefuses() {

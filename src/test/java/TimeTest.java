@@ -4,6 +4,7 @@ public final class TimeTest {
 
     public static void main(String[] args) {
         limitsOfAllKinds();
+        eachShortLimit();
         longestLimit();
         limitsCountFromNow();
         limitOfACallEndsWithTheMessage();
@@ -45,6 +46,18 @@ public final class TimeTest {
         isAt(x, 5, 0, 1);
         due.is("12: tick()", x.tick(), 0);
         due.is("9: receive(0, -1, 0)", x.receive(0, -1, 0), 2);
+    }
+
+    private static void eachShortLimit() {
+        for (int limit = 1; limit <= 20; limit++) {
+            PagerKernel x = threads(2);
+            x.receive(1, 0, limit);
+            for (int n = 1; n < limit; n++) {
+                due.is("12: tick() " + n + " of " + limit, x.tick(), 0);
+            }
+            due.is("12: tick() " + limit + " of " + limit, x.tick(), 1);
+            isAt(x, 1, 0, 1);
+        }
     }
 
     private static void longestLimit() {
