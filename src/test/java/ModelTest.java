@@ -8,6 +8,7 @@ import java.util.Random;
 public final class ModelTest {
     private static final int RUNS = 20_000;
     private static final int LONGEST_RUN = 200;
+    private static final int ASKING_RUN = 251;
     private static final int[] STRANGE = {
         Integer.MIN_VALUE, Integer.MIN_VALUE + 1, -101, -2, -1, 0, 1, 2, 3, 4, 5, 6, 7, 8, 15, 16, 17, 100, 101,
         1 << 16, 1 << 30, Integer.MAX_VALUE - 1, Integer.MAX_VALUE
@@ -30,7 +31,11 @@ public final class ModelTest {
 
     public static void main(String[] args) {
         for (int seed = 0; seed < RUNS && !due.hasWrong(); seed++) {
-            new ModelTest(seed).play();
+            if (seed % 4 == 0) {
+                new ModelTest(seed).playAndAsk();
+            } else {
+                new ModelTest(seed).play();
+            }
         }
         due.end();
     }
@@ -41,6 +46,33 @@ public final class ModelTest {
             step();
         }
         askAll();
+    }
+
+    /** A run that is nearly as long as an object's life, with a question after each call. */
+    private void playAndAsk() {
+        for (int n = 0; n < ASKING_RUN; n++) {
+            step();
+            ask();
+        }
+        askStrange();
+    }
+
+    private void ask() {
+        int t = random.nextInt(8);
+        int space = random.nextInt(6);
+        int p = random.nextInt(pages);
+        int k = random.nextInt(5);
+        switch (random.nextInt(9)) {
+            case 0 -> due.is(run + text("state", t), x.state(t), model.state(t));
+            case 1 -> due.is(run + text("outcome", t), x.outcome(t), model.outcome(t));
+            case 2 -> due.is(run + text("value", t), x.value(t), model.value(t));
+            case 3 -> due.is(run + text("sender", t), x.sender(t), model.sender(t));
+            case 4 -> due.is(run + text("waiting", t), x.waiting(t), model.waiting(t));
+            case 5 -> due.is(run + text("register", t, k), x.register(t, k), model.register(t, k));
+            case 6 -> due.is(run + text("mapping", space, p), x.mapping(space, p), model.mapping(space, p));
+            case 7 -> due.is(run + text("heirs", space, p), x.heirs(space, p), model.heirs(space, p));
+            default -> due.is(run + text("word", p), x.word(p), model.word(p));
+        }
     }
 
     private int below(int bound) {
