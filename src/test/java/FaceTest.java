@@ -22,9 +22,13 @@ public final class FaceTest {
     public static void main(String[] args) {
         due.yes("the class is public", Modifier.isPublic(PagerKernel.class.getModifiers()));
         due.yes("the class is final", Modifier.isFinal(PagerKernel.class.getModifiers()));
+        due.yes("the class extends Object alone", PagerKernel.class.getSuperclass() == Object.class);
+        due.is("its interfaces", PagerKernel.class.getInterfaces().length, 0);
+        due.yes("it has no package", PagerKernel.class.getPackageName().isEmpty());
         constructor();
         methods();
         fields();
+        classesInside();
         due.end();
     }
 
@@ -66,6 +70,16 @@ public final class FaceTest {
     private static void fields() {
         for (Field field : PagerKernel.class.getDeclaredFields()) {
             due.yes("the field " + field.getName() + " is private", isHidden(field));
+            boolean changes = Modifier.isStatic(field.getModifiers()) && !Modifier.isFinal(field.getModifiers());
+            due.no("the field " + field.getName() + " is static and not final", changes);
+        }
+    }
+
+    private static void classesInside() {
+        for (Class<?> inside : PagerKernel.class.getDeclaredClasses()) {
+            int modifiers = inside.getModifiers();
+            due.no(inside + " is public or protected", Modifier.isPublic(modifiers) || Modifier.isProtected(modifiers));
+            due.yes(inside + " is static", Modifier.isStatic(modifiers));
         }
     }
 

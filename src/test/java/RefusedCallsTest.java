@@ -16,40 +16,6 @@ public final class RefusedCallsTest {
     private static final String[] NO_LEVELS = {"MIN", "-1", "0", "3", "MAX"};
     private static final String[] NO_LIMITS = {"MIN", "-2", "101", "MAX"};
 
-    /** Threads 1 .. 6 are in the states 1 .. 6, 0 runs, and nothing of it is as it was at first. */
-    private static final String BEFORE = """
-        tick() = 0
-        spawn(1, -1) = 1; spawn(2, -1) = 2; spawn(3, -1) = 3; spawn(4, 0) = 4; spawn(5, 0) = 5; spawn(1, -1) = 6
-        load(0, 0, 70) = true; load(0, 1, 71) = true; load(0, 2, 72) = true; load(0, 3, 73) = true
-        window(1, 2) = true; receive(1, 0, -1) = 1; offer(0, 1, 2, false) = true; send(0, 1, 0) = 0
-        window(3, 3) = true; receive(3, 1, -1) = 1; offer(1, 2, 2, false) = true; send(1, 3, 0) = 0
-        window(4, 1) = true; window(5, 2) = true; window(6, 4) = true; offer(6, 2, 1, false) = true
-        window(2, 5) = true; offer(4, 0, 1, true) = true; offer(5, 0, 1, true) = true
-        access(5, 6, true, 77) = 1; receive(0, -1, 0) = 0
-        offer(1, 2, 2, true) = true; send(1, 0, 3) = 1
-        access(4, 8, false, 0) = 1
-        offer(3, 3, 1, false) = true; call(3, 0, 2) = 1
-        receive(2, -1, 4) = 1
-        access(6, 0, false, 0) = 2
-        access(0, 4, true, 55) = 0; access(0, 4, false, 0) = 0
-        load(0, 0, 80) = true; load(0, 3, 83) = true
-        receive(0, 6, 0) = 2
-        window(0, 14) = true; offer(0, 9, 1, false) = true
-        """;
-
-    private static final String EIGHT_THREADS = BEFORE + "spawn(5, 0) = 7; load(7, 0, 90) = true; send(7, 6, 0) = 2\n";
-
-    /** The order of those that wait, the offers, the windows, the wanted pages and words. */
-    private static final String MEETINGS = """
-        send(0, 2, 0); mapping(2, 5); register(2, 0); register(2, 3); state(2)
-        receive(0, -1, 0); sender(0); mapping(0, 14); mapping(1, 2); register(0, 0)
-        window(0, 13); receive(0, -1, 0); sender(0); register(0, 0); register(0, 1); mapping(0, 13)
-        receive(0, -1, 0); sender(0); mapping(0, 13); state(3); receive(0, -1, 0); outcome(0)
-        offer(0, 10, 1, false); send(0, 5, 0); mapping(5, 6); state(5); receive(0, 5, 0); register(0, 0); register(0, 1)
-        offer(0, 10, 2, false); send(0, 5, 0); word(10); state(5); send(0, 4, 0); state(4)
-        spawn(2, 0); state(7); access(7, 0, false, 0); waiting(0); access(2, 0, false, 0); state(2)
-        """;
-
     /** The limits. */
     private static final String TICKS = """
         tick(); state(1); state(2); state(3); tick(); state(1); state(2); state(3); tick(); state(1); state(2); state(3)
@@ -71,23 +37,23 @@ public final class RefusedCallsTest {
     public static void main(String[] args) {
         List<String> refused = refusedCalls();
         for (String call : refused) {
-            changesNothing(BEFORE, call);
+            changesNothing(Texts.MIXED, call);
         }
-        changesNothing(EIGHT_THREADS, "spawn(0, -1) = -1");
-        changesNothing(EIGHT_THREADS, "spawn(5, 7) = -1");
+        changesNothing(Texts.EIGHT_THREADS, "spawn(0, -1) = -1");
+        changesNothing(Texts.EIGHT_THREADS, "spawn(5, 7) = -1");
         StringBuilder all = new StringBuilder();
         for (String call : refused) {
             all.append(call).append('\n');
         }
-        for (String after : new String[] {MEETINGS, TICKS, FROM_ANY, LATER}) {
-            sameAnswers(BEFORE, all.toString(), after);
+        for (String after : new String[] {Texts.MEETINGS, TICKS, FROM_ANY, LATER}) {
+            sameAnswers(Texts.MIXED, all.toString(), after);
         }
         System.out.println(refused.size() + " refused calls");
         due.end();
     }
 
     private static void changesNothing(String before, String call) {
-        for (String after : new String[] {everything(), MEETINGS, TICKS, FROM_ANY, LATER}) {
+        for (String after : new String[] {Texts.everything(), Texts.MEETINGS, TICKS, FROM_ANY, LATER}) {
             sameAnswers(before, call, after);
         }
     }
@@ -165,26 +131,5 @@ public final class RefusedCallsTest {
         add(refused, "access(0, T, true, 99) = -1", "MIN", "-1", "16", "MAX");
         add(refused, "unmap(0, T, 1, true) = -1", "MIN", "-1", "16", "MAX");
         add(refused, "unmap(0, 1, T, true) = -1", NO_LEVELS);
-    }
-
-    private static String everything() {
-        StringBuilder all = new StringBuilder();
-        for (int t = 0; t < 8; t++) {
-            for (String name : new String[] {"state", "outcome", "value", "sender", "waiting"}) {
-                all.append(Texts.text(name, t)).append('\n');
-            }
-            for (int k = 0; k < 5; k++) {
-                all.append(Texts.text("register", t, k)).append('\n');
-            }
-        }
-        for (int space = 0; space < 6; space++) {
-            for (int p = 0; p < 16; p++) {
-                all.append(Texts.text("mapping", space, p)).append('\n').append(Texts.text("heirs", space, p)).append('\n');
-            }
-        }
-        for (int frame = 0; frame < 16; frame++) {
-            all.append(Texts.text("word", frame)).append('\n');
-        }
-        return all.toString();
     }
 }

@@ -44,6 +44,32 @@ final class Script {
             };
         }
 
+        long answer(KernelModel model) {
+            return switch (name) {
+                case "spawn" -> model.spawn(at(0), at(1));
+                case "delete" -> number(model.delete(at(0)));
+                case "load" -> number(model.load(at(0), at(1), at(2)));
+                case "offer" -> number(model.offer(at(0), at(1), at(2), at(3) != 0));
+                case "window" -> number(model.window(at(0), at(1)));
+                case "send" -> model.send(at(0), at(1), at(2));
+                case "call" -> model.call(at(0), at(1), at(2));
+                case "receive" -> model.receive(at(0), at(1), at(2));
+                case "access" -> model.access(at(0), at(1), at(2) != 0, at(3));
+                case "unmap" -> model.unmap(at(0), at(1), at(2), at(3) != 0);
+                case "tick" -> model.tick();
+                case "state" -> model.state(at(0));
+                case "register" -> model.register(at(0), at(1));
+                case "outcome" -> model.outcome(at(0));
+                case "value" -> model.value(at(0));
+                case "sender" -> model.sender(at(0));
+                case "mapping" -> model.mapping(at(0), at(1));
+                case "heirs" -> model.heirs(at(0), at(1));
+                case "waiting" -> model.waiting(at(0));
+                case "word" -> model.word(at(0));
+                default -> throw new IllegalArgumentException("no call " + name);
+            };
+        }
+
         private int at(int n) {
             return args[n];
         }
@@ -124,6 +150,14 @@ final class Script {
         long[] answers = new long[calls.size()];
         for (int n = 0; n < answers.length; n++) {
             answers[n] = calls.get(n).answer(x);
+        }
+        return answers;
+    }
+
+    long[] answers(KernelModel model) {
+        long[] answers = new long[calls.size()];
+        for (int n = 0; n < answers.length; n++) {
+            answers[n] = calls.get(n).answer(model);
         }
         return answers;
     }

@@ -1,4 +1,4 @@
-/** The boundary cases of the document's "Terms", sentence by sentence, each with runs of its own. */
+/** The document's "Terms", sentence by sentence with its boundary cases, each with runs of its own. */
 public final class TermsEdgesTest {
     private static final Sentences sentences = new Sentences("TermsEdgesTest");
 
@@ -9,16 +9,21 @@ public final class TermsEdgesTest {
         states();
         pages();
         mappings();
+        messageOrder();
         messageStepOne();
+        messageOfOthers();
         messageStepTwo();
         messageStepThree();
         messageStepFour();
+        handingOnFromSpaceToSpace();
         handingOnNothing();
         handingOnRemoves();
         handingOnGrants();
         handingOnDerives();
+        accessWanted();
         accessDone();
         accessNotDone();
+        pagersOfPagers();
         time();
         threadsEnd();
         firstRefusal();
@@ -131,6 +136,14 @@ public final class TermsEdgesTest {
         sentences.hold("Threads", "6 STUCK", """
             spawn(1, -1) = 1; access(1, 0, true, 3) = 2; state(1) = 6; send(0, 1, 0) = 2; 9 x tick() = 0; state(1) = 6
             """);
+        String other = "receive(2, -1, 0) = 2; receive(2, 1, 0) = 2; waiting(2) = 0; receive(2, -1, -1) = 1; delete(2) = true\n";
+        sentences.hold("Threads", "It is SENDING, CALLING, FAULTING on its TARGET",
+            "spawn(1, -1) = 1; spawn(0, -1) = 2; send(1, 0, -1) = 1; waiting(0) = 1\n" + other
+                + "state(1) = 1; waiting(0) = 1; receive(0, 1, 0) = 0; state(1) = 0",
+            "spawn(1, -1) = 1; spawn(0, -1) = 2; call(1, 0, -1) = 1; waiting(0) = 1\n" + other
+                + "state(1) = 3; waiting(0) = 1; receive(0, 1, 0) = 0; state(1) = 2",
+            "spawn(1, 0) = 1; spawn(0, -1) = 2; access(1, 3, false, 0) = 1; waiting(0) = 1\n" + other
+                + "state(1) = 4; waiting(0) = 1; receive(0, 1, 0) = 0; state(1) = 5");
         sentences.hold("Threads", "the thread that it is RECEIVING from (if not from any) is its SOURCE", """
             spawn(0, -1) = 1; spawn(0, -1) = 2; receive(0, 1, -1) = 1; send(2, 0, 0) = 2; call(2, 0, 0) = 2; state(0) = 2
             send(1, 0, 0) = 0; state(0) = 0; sender(0) = 1
@@ -172,6 +185,12 @@ public final class TermsEdgesTest {
             words + "word(-1) = 0; word(16) = 0", """
             access(0, 7, true, MIN) = 0; word(7) = MIN; access(0, 7, true, MAX) = 0; word(7) = MAX
             """);
+        sentences.hold("Pages", "A page of a space may hold a MAPPING: a frame, a LEVEL, and a DEPTH",
+            Texts.SPACES + Texts.map(0, 3, 1, 7) + Texts.hand(0, 4, 2, 7, 1, false) + Texts.map(2, 7, 3, 7)
+                + Texts.page(1, 7, 1032, 0) + Texts.page(2, 7, 1041, 1) + Texts.page(3, 7, 2041, 0)
+                + Texts.page(0, 7, 72, 0) + Texts.empty(4, 7),
+            Texts.SPACES + Texts.map(0, 3, 1, 7) + Texts.map(0, 4, 1, 7) + Texts.page(1, 7, 1042, 0) + Texts.page(0, 3, 32, 0)
+                + Texts.page(0, 4, 42, 1));
         sentences.hold("Pages", "a LEVEL (1 reading, 2 reading and writing)",
             Texts.SPACES + Texts.hand(0, 3, 1, 0, 1, false) + """
             mapping(1, 0) = 1031; access(1, 0, false, 0) = 0; access(1, 0, true, 5) = 2; word(3) = 0
@@ -246,6 +265,42 @@ public final class TermsEdgesTest {
             loaded + "access(1, 0, false, 9) = 1; receive(0, -1, 0) = 0; register(0, 0) = 0; register(0, 1) = 1\n" + fault,
             loaded + "receive(0, 1, -1) = 1; access(1, 7, false, 9) = 1; register(0, 0) = 7; register(0, 1) = 1\n" + fault
                 + "; register(1, 0) = 60; register(1, 1) = 61");
+    }
+
+    private static void messageOfOthers() {
+        String loaded = """
+            spawn(1, -1) = 1; load(1, 0, 60) = true; load(1, 1, 61) = true; load(1, 2, 62) = true; load(1, 3, 63) = true
+            """;
+        String taken = Texts.registers(0, 60, 61, 62, 63, 1);
+        String ownStay = Texts.registers(1, 60, 61, 62, 63, 0);
+        sentences.hold("Message 1", "The words are, of all others: the registers of s",
+            loaded + "receive(0, 1, -1) = 1; send(1, 0, 0) = 0\n" + taken + ownStay,
+            loaded + "send(1, 0, 9) = 1; receive(0, -1, 0) = 0\n" + taken + ownStay,
+            loaded + "receive(0, -1, -1) = 1; call(1, 0, 0) = 1\n" + taken + ownStay,
+            loaded + "call(1, 0, 9) = 1; receive(0, 1, 0) = 0\n" + taken + ownStay);
+        sentences.hold("Message 1", "the registers of s (each thread goes on with its own)",
+            loaded + "send(1, 0, -1) = 1; receive(0, 1, 0) = 0; load(1, 0, 5) = true; load(0, 3, 6) = true\n"
+                + Texts.registers(0, 60, 61, 62, 6) + Texts.registers(1, 5, 61, 62, 63));
+    }
+
+    private static void messageOrder() {
+        String rests = "spawn(1, 0) = 1; access(0, 6, true, 13) = 0; access(1, 3, true, 14) = 1; receive(0, 1, 0) = 0\n";
+        sentences.hold("Message", "A MESSAGE goes from a thread s, which sends, to a thread r, which receives from s or from any",
+            "spawn(1, -1) = 1; spawn(2, -1) = 2; receive(1, 2, -1) = 1; send(0, 1, 0) = 2; send(2, 1, 0) = 0; sender(1) = 2",
+            "spawn(1, -1) = 1; spawn(2, -1) = 2; receive(1, -1, -1) = 1; send(2, 1, 0) = 0; sender(1) = 2; state(0) = 0",
+            "spawn(1, -1) = 1; receive(1, 0, -1) = 1; receive(0, 1, -1) = 1; state(0) = 2; state(1) = 2",
+            "spawn(1, -1) = 1; send(1, 0, -1) = 1; send(0, 1, -1) = 1; state(0) = 1; state(1) = 1");
+        sentences.hold("Message", "in this order (the offer is handed on before the access is tried)",
+            rests + "offer(0, 6, 2, false) = true; send(0, 1, 0) = 0\n" + Texts.at(1, 0, 0) + "word(6) = 14; waiting(0) = 0",
+            rests + "offer(0, 6, 1, false) = true; send(0, 1, 0) = 0\n" + Texts.page(1, 3, 1061, 0)
+                + "state(1) = 4; word(6) = 13; offer(0, 7, 2, true) = true; receive(0, 1, 0) = 0; send(0, 1, 0) = 0\n"
+                + Texts.page(1, 3, 72, 0) + Texts.page(0, 6, 62, 0) + "state(1) = 0; word(7) = 14; word(6) = 13");
+        sentences.hold("Message", "in this order (s calls and so receives before the access is tried)",
+            rests + "load(0, 0, 50) = true; call(0, 1, 0) = 1; state(0) = 0; state(1) = 5\n" + Texts.registers(0, 3, 2, 0, 0, 2),
+            rests + "offer(0, 6, 1, false) = true; call(0, 1, 0) = 1; state(0) = 0; state(1) = 5; mapping(1, 3) = 1061\n"
+                + "offer(0, 6, 2, false) = true; call(0, 1, 0) = 1; state(0) = 2; state(1) = 0; word(6) = 14");
+        sentences.hold("Message", "in this order (s that sends runs before the access is tried)",
+            rests + "send(0, 1, 0) = 0\n" + Texts.at(0, 0, 0) + "state(1) = 4; waiting(0) = 1; register(0, 4) = 1");
     }
 
     private static void messageStepTwo() {
@@ -360,6 +415,15 @@ public final class TermsEdgesTest {
             Texts.SPACES + Texts.map(2, 5, 1, 3) + Texts.empty(1, 3));
     }
 
+    private static void handingOnFromSpaceToSpace() {
+        String others = Texts.SPACES + Texts.map(0, 1, 2, 5) + Texts.map(0, 2, 4, 5) + Texts.map(0, 3, 2, 9);
+        sentences.hold("Handing on", "HANDING ON page p of the space of s to page q of the space of r (q being the window)",
+            others + Texts.map(2, 5, 4, 9) + Texts.page(4, 9, 2012, 0) + Texts.page(2, 5, 1012, 1) + Texts.page(4, 5, 1022, 0)
+                + Texts.page(2, 9, 1032, 0) + Texts.page(0, 9, 92, 0),
+            others + Texts.hand(2, 5, 4, 9, 1, true) + Texts.page(4, 9, 1012, 0) + Texts.empty(2, 5) + Texts.page(4, 5, 1022, 0)
+                + Texts.page(2, 9, 1032, 0) + Texts.page(0, 9, 92, 0) + Texts.page(0, 5, 52, 0));
+    }
+
     private static void handingOnRemoves() {
         String tree = Texts.SPACES + Texts.map(0, 3, 1, 3) + Texts.map(1, 3, 2, 3) + Texts.map(2, 3, 3, 3)
             + Texts.map(0, 3, 4, 0);
@@ -460,6 +524,30 @@ public final class TermsEdgesTest {
             "spawn(1, 0) = 1; spawn(1, 0) = 2; call(0, 2, -1) = 1; access(1, 3, true, 0) = 1; state(1) = 4; state(0) = 3");
     }
 
+    private static void accessWanted() {
+        String reads = "spawn(1, 0) = 1; access(0, 6, true, 13) = 0; access(1, 3, false, 0) = 1; receive(0, 1, 0) = 0\n";
+        String writes = "spawn(1, 0) = 1; access(0, 6, true, 13) = 0; access(1, 3, true, 14) = 1; receive(0, 1, 0) = 0\n";
+        sentences.hold("Access", "for reading (level 1 is wanted) or writing (level 2), is TRIED",
+            reads + "register(0, 1) = 1; offer(0, 6, 1, false) = true; send(0, 1, 0) = 0; state(1) = 0; value(1) = 13",
+            writes + "register(0, 1) = 2; offer(0, 6, 1, false) = true; send(0, 1, 0) = 0; state(1) = 4; word(6) = 13\n"
+                + "receive(0, 1, 0) = 0; register(0, 0) = 3; register(0, 1) = 2; offer(0, 6, 2, false) = true\n"
+                + "send(0, 1, 0) = 0; state(1) = 0; word(6) = 14; value(1) = 0");
+    }
+
+    private static void pagersOfPagers() {
+        sentences.hold("Access", "(That a pager RESTS for a thread whose pager it is cannot be, "
+            + "since a pager was there before its thread.)", """
+            spawn(1, 0) = 1; spawn(2, 1) = 2; access(1, 3, false, 0) = 1; receive(0, 1, 0) = 0; state(1) = 5
+            access(2, 4, true, 8) = 1; state(2) = 4; state(1) = 5; waiting(1) = 1; register(1, 4) = 0
+            offer(0, 6, 2, false) = true; send(0, 1, 0) = 0; state(1) = 0; state(2) = 4
+            receive(1, -1, 0) = 0; sender(1) = 2; register(1, 0) = 4; register(1, 1) = 2; state(2) = 5
+            offer(1, 3, 2, false) = true; send(1, 2, 0) = 0; state(2) = 0; word(6) = 8; mapping(2, 4) = 2062
+            """, """
+            spawn(1, 0) = 1; spawn(2, 1) = 2; delete(1) = true; spawn(1, 2) = 1; access(1, 3, false, 0) = 1; waiting(2) = 1
+            receive(2, 1, 0) = 0; state(1) = 5; access(2, 4, false, 0) = 2; state(2) = 6; state(1) = 5; waiting(1) = 0
+            """);
+    }
+
     private static void time() {
         sentences.hold("Time", "NOW is 0 at first. (a limit counts from NOW)",
             "spawn(0, -1) = 1; receive(1, 0, 1) = 1; tick() = 1; state(1) = 0",
@@ -480,6 +568,10 @@ public final class TermsEdgesTest {
     }
 
     private static void threadsEnd() {
+        sentences.hold("Thread's end", "THREAD t ends when it is deleted",
+            Texts.ALL_STATES + "spawn(1, -1) = 7; spawn(1, -1) = -1; 150 x tick() = 0; spawn(1, -1) = -1\n"
+                + "state(1) = 1; state(2) = 2; state(3) = 3; state(4) = 4; state(5) = 5; state(6) = 6; state(7) = 0\n"
+                + "delete(6) = true; state(6) = -1; send(0, 6, 0) = -1; spawn(1, 6) = -1; spawn(1, -1) = 6; state(6) = 0");
         String end = "delete(5) = true\n";
         sentences.hold("Thread's end", "every thread SENDING to it or CALLING it is RUNNING with the outcome 2",
             Texts.SPACES + "send(1, 5, -1) = 1; call(2, 5, 7) = 1; send(3, 4, -1) = 1\n" + end + Texts.at(1, 0, 2)
