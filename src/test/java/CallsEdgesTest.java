@@ -5,6 +5,10 @@ public final class CallsEdgesTest {
     /** A row per limit that is none. */
     private static final String[] NO_LIMITS = {"-2", "101", "MIN", "MAX"};
 
+    /** Thread 1 is in space 4 and thread 2 in space 1; page 6 of these holds frame 3 and 4. */
+    private static final String OTHER_NUMBERS = "spawn(4, -1) = 1; spawn(1, -1) = 2\n" + Texts.map(0, 3, 1, 6)
+        + Texts.map(0, 4, 2, 6);
+
     public static void main(String[] args) {
         newObject();
         spawn();
@@ -96,6 +100,11 @@ public final class CallsEdgesTest {
             Texts.SPACES + "offer(0, 3, 2, true) = true\n" + Texts.hand(0, 4, 1, 0, 1, false) + Texts.page(1, 0, 1041, 0)
                 + Texts.page(0, 3, 32, 0) + Texts.page(0, 4, 42, 1),
             Texts.SPACES + Texts.map(0, 3, 1, 5) + Texts.map(1, 5, 2, 0) + Texts.page(2, 0, 2032, 0));
+        sentences.hold("5", "The offer becomes page p of its space (not that of the space with its number)",
+            OTHER_NUMBERS + Texts.map(1, 6, 0, 9) + Texts.page(0, 9, 2032, 0) + Texts.page(4, 6, 1032, 1)
+                + Texts.page(1, 6, 1042, 0),
+            OTHER_NUMBERS + Texts.hand(2, 6, 0, 9, 1, true) + Texts.page(0, 9, 1042, 0) + Texts.page(4, 6, 1032, 0)
+                + Texts.empty(1, 6));
         sentences.hold("5", "(whether it holds a mapping or not)",
             Texts.SPACES + "offer(1, 9, 1, false) = true; offer(1, 9, 2, true) = true; window(2, 0) = true; send(1, 2, -1) = 1\n"
                 + "spawn(1, -1) = 6\n" + Texts.map(0, 4, 6, 9) + "receive(2, 1, 0) = 0\n" + Texts.page(2, 0, 1042, 0)
@@ -121,6 +130,8 @@ public final class CallsEdgesTest {
             Texts.SPACES + Texts.map(0, 3, 1, 0) + Texts.map(0, 3, 1, 15) + Texts.map(0, 3, 5, 7) + Texts.page(1, 0, 1032, 0)
                 + Texts.page(1, 15, 1032, 0) + Texts.page(5, 7, 1032, 0),
             Texts.SPACES + "window(1, 4) = true\n" + Texts.map(0, 3, 1, 5) + Texts.empty(1, 4) + Texts.page(1, 5, 1032, 0));
+        sentences.hold("6", "The window becomes page p of its space (not that of the space with its number)",
+            OTHER_NUMBERS + Texts.page(4, 6, 1032, 0) + Texts.page(1, 6, 1042, 0) + Texts.empty(2, 6));
         sentences.hold("6", "or none with p = -1: true",
             "spawn(1, -1) = 1; window(1, 4) = true; window(1, -1) = true; offer(0, 3, 2, false) = true; receive(1, 0, -1) = 1\n"
                 + "send(0, 1, 0) = 0; mapping(1, 4) = -1; heirs(0, 3) = 0");
@@ -265,6 +276,9 @@ public final class CallsEdgesTest {
         sentences.hold("10", "An access of running t to page p, writing v if store is true, else reading.",
             "access(0, 0, true, 6) = 0; word(0) = 6; value(0) = 0; access(0, 0, false, 7) = 0; word(0) = 6; value(0) = 6",
             "access(0, 15, true, 6) = 0; word(15) = 6; value(0) = 0; access(0, 15, false, 7) = 0; word(15) = 6; value(0) = 6");
+        sentences.hold("10", "to page p (of its space, not of the space with its number)",
+            OTHER_NUMBERS + "access(0, 3, true, 8) = 0; access(0, 4, true, 9) = 0; access(1, 6, false, 0) = 0; value(1) = 8\n"
+                + "access(2, 6, true, 7) = 0; word(4) = 7; word(3) = 8");
         sentences.hold("10", "Refused with -1, also if p is not 0 .. 15.",
             "spawn(1, 0) = 1; receive(0, 1, 0) = 2\n" + each("access(0, T, true, 9) = -1\n"
                 + "access(1, T, false, 9) = -1", "-1", "16", "MIN", "MAX")
@@ -296,6 +310,9 @@ public final class CallsEdgesTest {
         sentences.hold("11", "Running t takes back what came of page p of its space.",
             tree + "unmap(2, 3, 1, false) = 1\n" + Texts.empty(0, 0) + Texts.page(1, 3, 1032, 2)
                 + "unmap(0, 15, 1, true) = 1; mapping(0, 15) = -1; mapping(0, 3) = 32");
+        sentences.hold("11", "what came of page p of its space (not that of the space with its number)",
+            OTHER_NUMBERS + "unmap(1, 6, 1, true) = 1\n" + Texts.empty(4, 6) + Texts.page(1, 6, 1042, 0),
+            OTHER_NUMBERS + "unmap(2, 6, 2, true) = 1\n" + Texts.page(1, 6, 1041, 0) + Texts.page(4, 6, 1032, 0));
         sentences.hold("11", "0 if the page holds none",
             tree + "unmap(1, 4, 1, true) = 0; unmap(1, 4, 2, true) = 0; unmap(1, 4, 1, false) = 0; unmap(1, 4, 2, false) = 0\n"
                 + Texts.page(0, 3, 32, 5),

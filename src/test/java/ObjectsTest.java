@@ -17,7 +17,8 @@ public final class ObjectsTest {
     public static void main(String[] args) {
         String[] lives = {
             Texts.ALL_STATES + Texts.everything(), Texts.MIXED + Texts.MEETINGS + Texts.everything(),
-            Texts.EIGHT_THREADS + Texts.MEETINGS + "4 x tick()", Texts.chain(12) + Texts.everything()
+            Texts.EIGHT_THREADS + Texts.MEETINGS, Texts.chain(12) + Texts.everything(),
+            "9 x tick()\n" + Texts.MIXED + "5 x tick()"
         };
         for (String first : lives) {
             for (String second : lives) {
@@ -51,14 +52,16 @@ public final class ObjectsTest {
     private static void newBesideUsed(Script life) {
         Script everything = new Script(Texts.everything());
         long[] atFirst = everything.answers(new PagerKernel());
+        long[] alone = life.answers(new PagerKernel());
         PagerKernel used = new PagerKernel();
-        life.answers(used);
-        long[] before = everything.answers(used);
-        long[] fresh = everything.answers(new PagerKernel());
-        long[] after = everything.answers(used);
+        PagerKernel fresh = new PagerKernel();
+        for (int n = 0; n < alone.length; n++) {
+            due.is("beside new objects, " + life.calls().get(n), life.calls().get(n).answer(used), alone[n]);
+            fresh = new PagerKernel();
+        }
+        long[] got = everything.answers(fresh);
         for (int n = 0; n < atFirst.length; n++) {
-            due.is("a new object beside a used one, " + everything.calls().get(n), fresh[n], atFirst[n]);
-            due.is("a used object beside a new one, " + everything.calls().get(n), after[n], before[n]);
+            due.is("a new object beside a used one, " + everything.calls().get(n), got[n], atFirst[n]);
         }
     }
 

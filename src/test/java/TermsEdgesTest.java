@@ -95,6 +95,10 @@ public final class TermsEdgesTest {
             mapping(2, 0) = -1
             """, mark + again + """
             window(0, 9) = true; receive(0, 1, -1) = 1; send(1, 0, 0) = 0; mapping(0, 9) = 92
+            """, mark + """
+            delete(1) = true; spawn(0, -1) = 1; window(0, 9) = true; receive(0, 1, -1) = 1; send(1, 0, 0) = 0; mapping(0, 9) = 92
+            """, """
+            spawn(0, -1) = 1; window(1, 9) = true; receive(1, 0, -1) = 1; send(0, 1, 0) = 0; mapping(0, 9) = 92
             """);
         sentences.hold("Threads", "a WINDOW (none at first)", """
             spawn(0, -1) = 1; offer(1, 5, 2, false) = true; receive(0, 1, -1) = 1; send(1, 0, 0) = 0
@@ -460,6 +464,9 @@ public final class TermsEdgesTest {
             Texts.SPACES + Texts.map(0, 3, 1, 4) + Texts.map(1, 4, 2, 0) + Texts.map(2, 0, 3, 0) + Texts.hand(1, 4, 4, 9, 2, true)
                 + Texts.map(0, 5, 1, 4) + Texts.page(4, 9, 1032, 2) + Texts.page(1, 4, 1052, 0) + Texts.page(0, 3, 32, 3)
                 + "unmap(4, 9, 1, false) = 2\n" + Texts.empty(2, 0) + Texts.empty(3, 0),
+            Texts.SPACES + Texts.map(0, 3, 1, 4) + Texts.map(1, 4, 0, 0) + Texts.map(1, 4, 5, 15)
+                + Texts.hand(1, 4, 2, 7, 2, true) + Texts.page(2, 7, 1032, 2) + "unmap(2, 7, 1, false) = 2\n"
+                + Texts.empty(0, 0) + Texts.empty(5, 15) + Texts.page(0, 3, 32, 1),
             Texts.chain(12) + Texts.hand(1, 0, 5, 5, 2, true) + Texts.page(5, 5, 1032, 11) + Texts.page(0, 3, 32, 12)
                 + "unmap(5, 5, 1, true) = 12\n" + Texts.page(0, 3, 32, 0));
     }
